@@ -6,6 +6,8 @@ public final class InvariantWorks {
     public static final int NONE = -1;
 
     private static final int PRIME = 2521;
+    // The power that turns a number into that which with it gives 1.
+    private static final int TO_INVERT = PRIME - 2;
     private static final int TOP = 15;
     private static final int GRADES = 16;
     private static final int TAPE_ROOM = 400;
@@ -228,7 +230,7 @@ public final class InvariantWorks {
             mover.use(g);
             mover.addAllMoved(kept[k], fresh);
         }
-        int part = inverse(members.many);
+        int part = raise(members.many, TO_INVERT);
         for (int i = 0; i < shape.size; i++) {
             fresh[i] = fresh[i] % PRIME * part % PRIME;
         }
@@ -478,10 +480,6 @@ public final class InvariantWorks {
         return result;
     }
 
-    private static int inverse(int number) {
-        return raise(number, PRIME - 2);
-    }
-
     private static int minor(int a, int b, int c, int d) {
         return Math.floorMod(a * d - b * c, PRIME);
     }
@@ -571,8 +569,12 @@ public final class InvariantWorks {
         }
 
         int degreeOf(int[] f) {
+            int last = size - 1;
+            while (last > 0 && f[last] == 0) {
+                last--;
+            }
             int degree = TOP;
-            while (degree > 0 && isZero(f, degree)) {
+            while (degree > 0 && start[degree] > last) {
                 degree--;
             }
             return degree;
@@ -1316,24 +1318,20 @@ public final class InvariantWorks {
         }
 
         // Sums stay unreduced till their column's turn: 153 products of two numbers fit an int.
-        boolean insert(int[] row) {
-            for (int column = 0; column < columns; column++) {
+        void insert(int[] row) {
+            int column = 0;
+            while (column < columns && (row[column] % PRIME == 0 || rowAt[column] >= 0)) {
                 int number = row[column] % PRIME;
-                if (number == 0) {
-                    continue;
+                if (number != 0) {
+                    subtract(rowAt[column], PRIME - number, row, 0, column);
                 }
-                if (rowAt[column] < 0) {
-                    store(row, column);
-                    return true;
-                }
-                subtract(rowAt[column], PRIME - number, row, 0, column);
+                column++;
             }
-            return false;
-        }
-
-        private void store(int[] row, int column) {
+            if (column == columns) {
+                return;
+            }
             int at = columns * rank;
-            int part = inverse(row[column] % PRIME);
+            int part = raise(row[column] % PRIME, TO_INVERT);
             Arrays.fill(rows, at, at + column, 0);
             for (int i = column; i < columns; i++) {
                 rows[at + i] = row[i] % PRIME * part % PRIME;
@@ -1446,7 +1444,7 @@ public final class InvariantWorks {
             turn(made, lead);
             int pivot = parts[lead] % PRIME;
             parts[lead] = parts[made];
-            int part = inverse(pivot);
+            int part = raise(pivot, TO_INVERT);
             int at = size * made;
             for (int i = 0; i < made; i++) {
                 triangles[at + i] = parts[i];
@@ -1488,7 +1486,7 @@ public final class InvariantWorks {
             }
             for (int i = made - 1; i >= 0; i--) {
                 int at = size * i;
-                int factor = parts[i] % PRIME * inverse(triangles[at + i]) % PRIME;
+                int factor = parts[i] % PRIME * raise(triangles[at + i], TO_INVERT) % PRIME;
                 parts[i] = factor;
                 for (int k = 0; k < i; k++) {
                     parts[k] += (PRIME - factor) * triangles[at + k];
@@ -1521,7 +1519,8 @@ public final class InvariantWorks {
         private Shape shape;
         private Members members;
         final int[] sizes = new int[GRADES];
-        private final Grade[] grades = new Grade[GRADES];
+        // Those of them that are known have been asked for by grade().
+        final Grade[] grades = new Grade[GRADES];
         private final int[] monomial = new int[MONOMIALS_OF_TOP];
         private final int[] sum = new int[MONOMIALS_OF_TOP];
         private final Piece piece = new Piece();
@@ -1562,7 +1561,7 @@ public final class InvariantWorks {
                     sizes[degree] += next;
                 }
             }
-            int part = inverse(members.many);
+            int part = raise(members.many, TO_INVERT);
             for (int degree = 0; degree < GRADES; degree++) {
                 int size = sizes[degree] % PRIME * part % PRIME;
                 sizes[degree] = Math.min(size, shape.first[degree + 1]);
@@ -1602,6 +1601,7 @@ public final class InvariantWorks {
     /** Tells what is a system, and looks for the primary ones. */
     private static final class PrimarySearch {
         private static final int MOST_ROWS = 83;
+        private static final int MOST_PRODUCT = TOP_PRIMARY * TOP_PRIMARY * TOP_PRIMARY;
 
         private final Bases bases;
         private final Echelon echelon;
@@ -1635,27 +1635,28 @@ public final class InvariantWorks {
         }
 
         boolean find() {
-            if (!searched) {
-                searched = true;
-                asked = 0;
-                fillCandidates();
-                int most = shape.variables == 3 ? 216 : 36;
-                for (int goal = members; goal <= most && !found && asked < MOST_ASKED; goal += members) {
+            if (searched) {
+                return found;
+            }
+            searched = true;
+            asked = 0;
+            candidates = 0;
+            for (int degree = 1; degree <= TOP_PRIMARY; degree++) {
+                addCandidates(bases.grade(degree));
+            }
+            for (int goal = 1; goal <= MOST_PRODUCT && !found && asked < MOST_ASKED; goal++) {
+                if (members > 0 && goal % members == 0) {
                     found = shape.variables == 3 ? tryTriples(goal) : tryPairs(0, goal, 0);
                 }
             }
             return found;
         }
 
-        private void fillCandidates() {
-            candidates = 0;
-            for (int degree = 1; degree <= TOP_PRIMARY; degree++) {
-                bases.grade(degree);
-                for (int row = 0; row < bases.sizes[degree] && candidates < MOST_ROWS; row++) {
-                    candidateDegrees[candidates] = degree;
-                    candidateRows[candidates] = row;
-                    candidates++;
-                }
+        private void addCandidates(Grade grade) {
+            for (int row = 0; row < grade.size && candidates < MOST_ROWS; row++) {
+                candidateDegrees[candidates] = grade.degree;
+                candidateRows[candidates] = row;
+                candidates++;
             }
         }
 
@@ -1698,7 +1699,7 @@ public final class InvariantWorks {
         private void choose(int which, int candidate) {
             degrees[which] = candidateDegrees[candidate];
             rows[which] = candidateRows[candidate];
-            Grade grade = bases.grade(degrees[which]);
+            Grade grade = bases.grades[degrees[which]];
             pieces[which].put(grade.rows, grade.many * rows[which], grade.degree);
         }
 
@@ -1802,30 +1803,33 @@ public final class InvariantWorks {
                 product *= search.degrees[i];
             }
             int due = search.members == 0 ? 0 : product / search.members;
-            while (top < TOP && many < due) {
-                extend(top + 1);
+            for (int degree = top + 1; degree <= TOP && many < due; degree++) {
+                fillGrade(bases.grade(degree));
             }
         }
 
-        void extend(int degree) {
-            while (top < degree && top < TOP) {
-                top++;
-                Grade grade = bases.grade(top);
-                grade.beginProducts();
-                for (int t = 0; t < shape.variables; t++) {
-                    if (search.degrees[t] <= top) {
-                        addProducts(grade, t);
-                    }
-                }
-                addSecondaries(grade);
+        void extend(int last) {
+            for (int degree = top + 1; degree <= TOP && degree <= last; degree++) {
+                fillGrade(bases.grade(degree));
             }
+        }
+
+        private void fillGrade(Grade grade) {
+            grade.beginProducts();
+            for (int t = 0; t < shape.variables; t++) {
+                if (search.degrees[t] <= grade.degree) {
+                    addProducts(grade, t);
+                }
+            }
+            addSecondaries(grade);
+            top = grade.degree;
         }
 
         // Each product comes once: from that with one less of its last primary one.
         private void addProducts(Grade grade, int t) {
-            Grade lower = bases.grade(grade.degree - search.degrees[t]);
-            Grade of = bases.grade(search.degrees[t]);
-            left.put(of.rows, of.many * search.rows[t], of.degree);
+            Grade lower = bases.grades[grade.degree - search.degrees[t]];
+            Grade home = bases.grades[search.degrees[t]];
+            left.put(home.rows, home.many * search.rows[t], home.degree);
             for (int i = 0; i < lower.made && grade.made < grade.size; i++) {
                 int at = 4 * i;
                 int b = lower.labels[at + 2];
@@ -1873,7 +1877,7 @@ public final class InvariantWorks {
             Arrays.fill(factors, 0);
             for (int degree = 0; degree <= top; degree++) {
                 if (!shape.isZero(f, degree)) {
-                    Grade grade = bases.grade(degree);
+                    Grade grade = bases.grades[degree];
                     grade.takeParts(f, shape.start[degree], parts);
                     grade.solve(parts);
                     System.arraycopy(parts, 0, factors, shape.start[degree], grade.size);
@@ -1882,13 +1886,14 @@ public final class InvariantWorks {
             told = shape.termsOf(factors);
         }
 
+        // Of two whose degrees together are not above those up to which products stand.
         void relate(int i, int h) {
             if (relatedLeft == i && relatedRight == h) {
                 return;
             }
-            Grade one = bases.grade(degrees[i]);
-            Grade two = bases.grade(degrees[h]);
-            Grade grade = bases.grade(degrees[i] + degrees[h]);
+            Grade one = bases.grades[degrees[i]];
+            Grade two = bases.grades[degrees[h]];
+            Grade grade = bases.grades[degrees[i] + degrees[h]];
             left.put(one.rows, one.many * rows[i], one.degree);
             right.put(two.rows, two.many * rows[h], two.degree);
             putSum(grade);
@@ -1907,7 +1912,7 @@ public final class InvariantWorks {
             if (degree > top) {
                 return NONE;
             }
-            int place = bases.grade((int) degree).productOf(j, a, b, c);
+            int place = bases.grades[(int) degree].productOf(j, a, b, c);
             return place < 0 ? NONE : shape.start[(int) degree] + place;
         }
     }
