@@ -4,17 +4,46 @@ import java.nio.charset.StandardCharsets;
 final class Checks {
     private static int wrong = 0;
     private static int made = 0;
+    private static String sentence = "";
+    private static int sentences = 0;
+    private static int madeBefore = 0;
 
     private Checks() {
+    }
+
+    /** From here on a sentence of the document is tested, till the next one or the end. */
+    static void says(String words) {
+        endSentence();
+        sentence = words;
+        sentences++;
+        madeBefore = made;
+    }
+
+    private static void endSentence() {
+        if (sentences > 0 && made == madeBefore) {
+            wrong++;
+            System.out.println("nothing is asked of: " + sentence);
+        }
     }
 
     static void due(String call, long got, long want) {
         made++;
         if (got != want) {
-            wrong++;
-            if (wrong <= 40) {
-                System.out.println(call + " answered " + got + ", due is " + want);
-            }
+            fails(call + " answered " + got + ", due is " + want);
+        }
+    }
+
+    static void due(String call, String got, String want) {
+        made++;
+        if (!got.equals(want)) {
+            fails(call + " answered \"" + got + "\", due is \"" + want + "\"");
+        }
+    }
+
+    private static void fails(String what) {
+        wrong++;
+        if (wrong <= 40) {
+            System.out.println((sentence.isEmpty() ? "" : "[" + sentence + "] ") + what);
         }
     }
 
@@ -27,7 +56,9 @@ final class Checks {
     }
 
     static void end() {
-        System.out.println(wrong == 0 ? made + " answers are as due" : wrong + " of " + made + " answers are not as due");
+        endSentence();
+        String all = made + " answers" + (sentences == 0 ? "" : " for " + sentences + " sentences");
+        System.out.println(wrong == 0 ? all + " are as due" : wrong + " of " + all + " are not as due");
         if (wrong != 0) {
             System.exit(1);
         }
@@ -83,5 +114,37 @@ final class Checks {
             }
         }
         return text.toString();
+    }
+
+    /** An object that has been told TABLES. */
+    static InvariantWorks with(String tables) {
+        InvariantWorks works = new InvariantWorks();
+        tables(works, tables);
+        return works;
+    }
+
+    /** All that an object answers of what it holds, for small groups and short polynomials. */
+    static String state(InvariantWorks works) {
+        StringBuilder text = new StringBuilder();
+        text.append("tape ").append(works.count(0)).append(" group");
+        for (int what = 0; what < 6; what++) {
+            text.append(' ').append(works.group(what));
+        }
+        for (int i = 0; i < 9 * works.group(0); i++) {
+            text.append(' ').append(works.member(i / 9, i / 3 % 3, i % 3));
+        }
+        for (int k = 0; k < 6; k++) {
+            text.append(" kept ").append(told(works, k));
+        }
+        text.append(" rewritten ").append(works.count(1));
+        for (int i = 0; i < 27; i++) {
+            text.append(' ').append(works.rewritten(0, i / 9, i / 3 % 3, i % 3));
+        }
+        return text.toString();
+    }
+
+    /** Numbers that are none of those from 0 to most. */
+    static int[] outside(int most) {
+        return new int[] {-1, most + 1, -2, most + 2, Integer.MIN_VALUE, Integer.MAX_VALUE, 1 << 16, -(1 << 16)};
     }
 }
