@@ -4,6 +4,7 @@ import java.lang.reflect.Method;
 import java.lang.reflect.Modifier;
 import java.util.Arrays;
 import java.util.HashSet;
+import java.util.NoSuchElementException;
 import java.util.Set;
 
 /** The public face is the document's, no more and no less. */
@@ -29,6 +30,13 @@ public final class FaceTest {
                 Checks.holds(m + " is public", Modifier.isPublic(m.getModifiers()));
                 Checks.holds(m + " answers an int", m.getReturnType() == int.class);
                 seen.add(m.getName() + " " + m.getParameterCount());
+                Class<?>[] thrown = m.getExceptionTypes();
+                boolean asTold = m.getName().equals("term")
+                        ? thrown.length == 1 && thrown[0] == NoSuchElementException.class : thrown.length == 0;
+                Checks.holds(m + " throws what the document says", asTold);
+                for (Class<?> type : m.getParameterTypes()) {
+                    Checks.holds(m + " takes ints alone", type == int.class);
+                }
             }
         }
         Checks.holds("the methods " + seen, seen.equals(new HashSet<>(Arrays.asList(METHODS))));

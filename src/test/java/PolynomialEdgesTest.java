@@ -379,6 +379,9 @@ public final class PolynomialEdgesTest {
         due("of 5 to 0", w.average(5, 0), 3);
         Checks.due("of 5 to 0", Checks.told(w, 0), "1261x6+1261y6+6x1y1");
         due("in its own place", w.average(5, 5), 3);
+        Checks.polynomial(w, 1, "2520");
+        due("of a number", w.average(1, 1), 1);
+        Checks.due("of a number", Checks.told(w, 1), "2520");
         Checks.polynomial(w, 1, "x-y");
         due("nothing is left", w.average(1, 1), 0);
         due("of 0", w.average(1, 1), 0);

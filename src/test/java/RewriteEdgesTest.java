@@ -47,6 +47,14 @@ public final class RewriteEdgesTest {
                 builtAndRewritten(text, new Random(seed));
             }
         }
+        // seen in other variables, where hardly a factor is 0
+        Random random = new Random(9);
+        for (List<long[][]> set : Groups.sets()) {
+            String text = Groups.text(Groups.conjugate(set, random, 2521), random);
+            if (Checks.with(text).secondaries() > 0) {
+                builtAndRewritten(text, random);
+            }
+        }
     }
 
     /** A sum of a few products, built by plus() and product(), has just these factors. */

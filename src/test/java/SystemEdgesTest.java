@@ -16,6 +16,7 @@ public final class SystemEdgesTest {
     }
 
     public static void main(String[] args) {
+        inPlaceOfThose();
         seriesEdges();
         seriesOthers();
         baseOfDegree();
@@ -47,6 +48,58 @@ public final class SystemEdgesTest {
 
     private static void due(String call, long got, long want) {
         Checks.due(call, got, want);
+    }
+
+    // ---- new tables
+
+    private static void inPlaceOfThose() {
+        Checks.says("are TABLES in place of those there were");
+        List<List<long[][]>> sets = Groups.sets();
+        Random random = new Random(11);
+        for (int object = 0; object < 12; object++) {
+            InvariantWorks old = new InvariantWorks();
+            for (int i = 0; i < 8; i++) {
+                String text = Groups.text(sets.get(random.nextInt(sets.size())), random);
+                Checks.tables(old, text);
+                Checks.due("as for a new object, " + text, all(old), all(Checks.with(text)));
+            }
+        }
+        String[] turns = {HIGH, SWAP, MINUS3, "1 0/0 " + Groups.root(7), ALL3, "-1 0/0 -1", CUBE, "1 0/0 1", HIGH};
+        InvariantWorks old = new InvariantWorks();
+        for (String text : turns) {
+            Checks.tables(old, text);
+            Checks.due("as for a new object, " + text, all(old), all(Checks.with(text)));
+        }
+    }
+
+    /** What the tables alone tell, all of it asked for. */
+    private static String all(InvariantWorks w) {
+        StringBuilder text = new StringBuilder();
+        for (int what = 0; what < 6; what++) {
+            text.append(' ').append(w.group(what));
+        }
+        for (int degree = 0; degree <= 15; degree++) {
+            text.append(" series ").append(w.series(degree)).append(" numerator ").append(w.numerator(degree));
+        }
+        for (int degree = 15; degree > 0; degree -= 3) {
+            w.plus(0, 0, -1, 0);
+            text.append(" base ").append(w.base(degree, w.series(degree) / 2, 0)).append(Checks.told(w, 0));
+            text.append(" left alone ").append(w.of(0, 2)).append(' ').append(w.of(0, 4));
+        }
+        for (int k = 0; k < 3; k++) {
+            text.append(" primary ").append(w.primary(k, 0)).append(':').append(w.primary(k, 1));
+        }
+        int many = w.secondaries();
+        text.append(" secondaries ").append(many);
+        for (int k = 0; k < many; k++) {
+            text.append(' ').append(w.secondary(k, 0)).append(':').append(w.secondary(k, 1));
+        }
+        for (int j = 0; j < many; j++) {
+            int last = many > 1 ? 1 : 0;
+            text.append(" relation ").append(w.relation(last, last, j, 0, 0, 0)).append(' ').append(w.relation(last, last, j, 1, 0, 0));
+            text.append(' ').append(w.relation(last, last, j, 0, 1, 0)).append(' ').append(w.relation(last, last, j, 0, 2, 0));
+        }
+        return text.toString();
     }
 
     // ---- series(), base()
