@@ -480,6 +480,10 @@ public final class InvariantWorks {
         return result;
     }
 
+    private static boolean divides(int part, int whole) {
+        return part > 0 && whole % part == 0;
+    }
+
     private static int minor(int a, int b, int c, int d) {
         return Math.floorMod(a * d - b * c, PRIME);
     }
@@ -988,8 +992,9 @@ public final class InvariantWorks {
 
         // Answers false if there are too many.
         boolean grow() {
-            for (int i = 0; i < CELLS; i++) {
-                cells[i] = i % (variables + 1) == 0 ? 1 : 0;
+            Arrays.fill(cells, 0, CELLS, 0);
+            for (int i = 0; i < variables; i++) {
+                cells[variables * i + i] = 1;
             }
             many = 1;
             for (int g = 0; g < many && g < MOST_MEMBERS; g++) {
@@ -1088,7 +1093,7 @@ public final class InvariantWorks {
         int commonPower() {
             for (int power = 1; power < many; power++) {
                 int fitting = 0;
-                while (fitting < many && power % orders[fitting] == 0) {
+                while (fitting < many && divides(orders[fitting], power)) {
                     fitting++;
                 }
                 if (fitting == many) {
@@ -1645,7 +1650,7 @@ public final class InvariantWorks {
                 addCandidates(bases.grade(degree));
             }
             for (int goal = 1; goal <= MOST_PRODUCT && !found && asked < MOST_ASKED; goal++) {
-                if (members > 0 && goal % members == 0) {
+                if (divides(members, goal)) {
                     found = shape.variables == 3 ? tryTriples(goal) : tryPairs(0, goal, 0);
                 }
             }
@@ -1662,7 +1667,7 @@ public final class InvariantWorks {
 
         private boolean tryTriples(int goal) {
             for (int i = 0; i < candidates && asked < MOST_ASKED; i++) {
-                if (goal % candidateDegrees[i] == 0) {
+                if (divides(candidateDegrees[i], goal)) {
                     choose(0, i);
                     if (tryPairs(i + 1, goal / candidateDegrees[i], 1)) {
                         return true;
@@ -1674,7 +1679,7 @@ public final class InvariantWorks {
 
         private boolean tryPairs(int from, int goal, int which) {
             for (int i = from; i < candidates; i++) {
-                if (goal % candidateDegrees[i] != 0) {
+                if (!divides(candidateDegrees[i], goal)) {
                     continue;
                 }
                 int last = goal / candidateDegrees[i];
